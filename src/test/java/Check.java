@@ -60,7 +60,7 @@ final class Check {
     /** Symbols as letters, changes as digits. */
     static String message(AliasStreams x) {
         StringBuilder s = new StringBuilder();
-        for (int i = 0; i < x.about(2); i++) {
+        for (int i = 0, end = x.about(2); i < end; i++) {
             int item = x.item(i);
             s.append((char) (item < 10 ? 'a' + item : '0' + item - 10));
         }
@@ -69,7 +69,7 @@ final class Check {
 
     static String digits(AliasStreams x) {
         StringBuilder s = new StringBuilder();
-        for (int k = 0; k < x.about(4); k++) {
+        for (int k = 0, end = x.about(4); k < end; k++) {
             s.append(Integer.toHexString(x.tape(0, k)));
         }
         return s.toString();
@@ -77,7 +77,7 @@ final class Check {
 
     static String plan(AliasStreams x) {
         StringBuilder s = new StringBuilder();
-        for (int k = 0; k < x.about(5); k++) {
+        for (int k = 0, end = x.about(5); k < end; k++) {
             s.append(x.tape(1, k));
         }
         return s.toString();
@@ -85,7 +85,7 @@ final class Check {
 
     static String takenSymbols(AliasStreams x) {
         StringBuilder s = new StringBuilder();
-        for (int k = 0; k < x.about(5); k++) {
+        for (int k = 0, end = x.about(5); k < end; k++) {
             int symbol = x.taken(k, 0);
             s.append(symbol == AliasStreams.NONE ? '-' : (char) ('a' + symbol));
         }
@@ -95,8 +95,9 @@ final class Check {
     /** Everything that makes up the state, to see that a call changed nothing. */
     static String state(AliasStreams x) {
         StringBuilder s = new StringBuilder();
-        for (int m = 0; m < x.about(1); m++) {
-            for (int i = 0; i < x.about(0); i++) {
+        int symbols = x.about(0);
+        for (int m = 0, end = x.about(1); m < end; m++) {
+            for (int i = 0; i < symbols; i++) {
                 s.append(x.symbol(m, i, 0)).append('/').append(x.symbol(m, i, 1)).append(' ');
             }
             s.append('|');

@@ -130,6 +130,9 @@ public final class MessageTest {
         Check.due("26: alike", y.bestModel(2, 1), 0);
         AliasStreams z = Check.loaded("A2m0101m0199m0299:b");
         Check.due("26: alike, and better than the first", z.bestModel(0, 1), 1);
+        Check.write(z, "A2m9901:b");
+        z.load();
+        Check.due("26: models of an earlier text do not count", z.bestModel(0, 1), 0);
         Check.refuses("26: symbol -1", Check.INDEX, () -> x.bestModel(-1, 1));
         Check.refuses("26: symbol 5", Check.INDEX, () -> x.bestModel(5, 1));
         Check.refuses("26: n 0", Check.ARGUMENT, () -> x.bestModel(0, 0));

@@ -22,52 +22,50 @@ public final class ScriptTest {
     }
 
     private static void runScript() {
-        AliasStreams x = Check.loaded("A2m0101m0001:" + "b".repeat(7));
-        script(x, 4, 1001_3000_6002_8107L, -9);
-        script(x, 4, 1001_3000_6001_8107L, 2);
-        script(x, 4, 1001_3000_6002_8007L, 3);
-        script(x, 4, 1001_3000_6002_8108L, 3);
-        script(x, 4, 3000_2000_4000_2006L, -9);
-        script(x, 4, 2000_4000_2000_3000L, 2);
-        script(x, 3, 3000_5500_7000L, -9);
-        script(x, 3, 3000_5500_7001L, 2);
-        script(x, 3, 3000_5501_7000L, 1);
-        script(x, 2, 3000L, 0);
-        script(x, 4, 3000L, 0);
-        script(x, 3, 1011_1000_3000L, 2);
+        String text = "A2m0101m0001:" + "b".repeat(7);
+        long[] good = {1001_3000_6002_8107L, 3000_2000_4000_2006L, 2000_2000_2000_2003L, 2000_3000_6000_7001L};
+        for (long commands : good) {
+            script(Check.loaded(text), 4, commands, -9);
+        }
+        script(Check.loaded(text), 4, 1001_3000_6001_8107L, 2);
+        script(Check.loaded(text), 4, 1001_3000_6002_8007L, 3);
+        script(Check.loaded(text), 4, 1001_3000_6002_8108L, 3);
+        script(Check.loaded(text), 4, 2000_4000_2000_3000L, 2);
+        script(Check.loaded(text), 4, 2000_2000_2000_2004L, 3);
+        script(Check.loaded(text), 4, 2000_3000_1000_8106L, 3);
+        script(Check.loaded(text), 3, 3000_5500_7000L, -9);
+        script(Check.loaded(text), 3, 3000_5500_7001L, 2);
+        script(Check.loaded(text), 3, 3000_5501_7000L, 1);
+        script(Check.loaded(text), 3, 1011_1000_3000L, 2);
+        script(Check.loaded(text), 2, 3000L, 0);
+        script(Check.loaded(text), 4, 3000L, 0);
+        AliasStreams x = Check.loaded(text);
+        x.runScript(4, 1001_3000_6002_8107L);
         Check.refuses("29: which is no action", Check.STATE, x::undo);
     }
 
+    private static void succeed(String text, int... groups) {
+        for (int group : groups) {
+            script(Check.encoded(text), 1, group, -9);
+        }
+    }
+
+    private static void fail(String text, int... groups) {
+        for (int group : groups) {
+            script(Check.encoded(text), 1, group, 0);
+        }
+    }
+
     private static void everyCommand() {
-        AliasStreams x = Check.encoded("A3m010101m010101:aaaaaaaa");
-        int digits = x.about(4);
-        script(x, 1, 1002, -9);
-        script(x, 1, 1003, 0);
-        script(x, 1, 1009, 0);
-        script(x, 1, 1010, -9);
-        script(x, 1, 1011, -9);
-        script(x, 1, 1012, 0);
-        script(x, 1, 1099, 0);
-        script(x, 1, 2007, -9);
-        script(x, 1, 2008, 0);
-        script(x, 1, 3000, -9);
-        script(x, 1, 4000, -9);
-        script(x, 1, 5000, -9);
-        script(x, 1, 5900 + digits - 1, -9);
-        script(x, 1, 5900 + digits, 0);
-        script(x, 1, 6000 + digits, -9);
-        script(x, 1, 6001 + digits, 0);
-        script(x, 1, 7001, -9);
-        script(x, 1, 7000, 0);
-        script(x, 1, 8000, -9);
-        script(x, 1, 8100, 0);
-        script(x, 1, 8007, -9);
-        script(x, 1, 8008, 0);
-        script(Check.loaded("A2m0101:" + "a".repeat(40)), 1, 1000, 0);
+        String text = "A3m010101m010101:aaaaaaaa";
+        int digits = Check.encoded(text).about(4);
+        succeed(text, 1002, 1010, 1011, 2007, 3000, 4000, 5000, 5900 + digits - 1, 6000 + digits, 7001, 8000, 8007);
+        fail(text, 1003, 1009, 1012, 1099, 2008, 5900 + digits, 6001 + digits, 7000, 8100, 8008);
+        fail("A2m0101:" + "a".repeat(40), 1000);
         script(Check.loaded("A2m0101:" + "a".repeat(39)), 2, 1000_1000, 1);
         script(Check.loaded("A2m0001:a"), 1, 3000, 0);
+        succeed("A2m0101m0101:" + "a".repeat(40), 4000);
         AliasStreams full = Check.encoded("A2m0101m0101:" + "a".repeat(40));
-        script(full, 1, 4000, -9);
         full.setPlan(39, 1);
         script(full, 1, 4000, 0);
         AliasStreams failing = Check.encoded("A2m0199:aa");
@@ -80,11 +78,13 @@ public final class ScriptTest {
     }
 
     private static void otherGroups() {
-        AliasStreams x = Check.encoded(A8);
         int[] wrong = {0, 9000, 9999, 1100, 1900, 2100, 3001, 3010, 3100, 4001, 4010, 4100, 6102, 7002, 7010,
             7011, 7100, 7101, 7009, 8200, 8900, 1, 999, 400};
+        fail(A8, wrong);
         for (int group : wrong) {
-            script(x, 1, group, 0);
+            AliasStreams changed = Check.encoded(A8);
+            changed.setHead(0, 8191);
+            script(changed, 1, group, 0);
         }
     }
 
@@ -151,14 +151,29 @@ public final class ScriptTest {
         one(x, 32, 1);
         one(x, 5, 0);
         one(x, 16 + 5, 0);
-        x.setDigit(1, 5);
-        one(x, 0, 0);
-        one(x, 16, 1);
-        one(x, 48, 1);
+        AliasStreams changed = Check.encoded(A8);
+        changed.setDigit(1, 5);
+        one(changed, 0, 0);
+        one(changed, 16, 1);
+        one(changed, 48, 1);
         AliasStreams failing = Check.encoded("A2m0199:a");
         failing.setHead(0, 512);
         for (int m = 1; m <= 40; m++) {
             Check.due("30: every copy fails", failing.simulate(m, m), 100 * m);
+        }
+        BigInteger modulus = BigInteger.TWO.pow(64);
+        for (int seed = -20; seed < 20; seed++) {
+            AliasStreams y = Check.encoded(A8);
+            y.setDigit(1, 5);
+            BigInteger state = BigInteger.valueOf(seed);
+            int sum = 0;
+            for (int m = 1; m <= 40; m++) {
+                state = state.multiply(new BigInteger("6364136223846793005"))
+                        .add(new BigInteger("1442695040888963407")).mod(modulus);
+                int r = state.shiftRight(33).intValueExact();
+                sum += y.effect(r / 16 % 2, r % 16, 1);
+                Check.due("30: simulate(" + seed + ", " + m + ")", y.simulate(seed, m), sum);
+            }
         }
         AliasStreams sure = Check.encoded("A2m0001:b");
         sure.setHead(0, 700);

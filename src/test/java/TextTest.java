@@ -68,6 +68,7 @@ public final class TextTest {
     private static void wrongTexts() {
         error("", 0);
         error("B", 0);
+        error("m", 0);
         error("a2m0101", 0);
         error("A", 1);
         error("A1", 1);

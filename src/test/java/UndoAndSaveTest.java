@@ -31,7 +31,7 @@ public final class UndoAndSaveTest {
     }
 
     private static void undoEveryAction() {
-        AliasStreams x = Check.loaded("A2m0101m0102:bb1bb0bbbb");
+        AliasStreams x = Check.loaded("A2m0101m0102:b1bb");
         String[] states = new String[9];
         states[0] = Check.state(x);
         x.setCount(1, 0, 99);

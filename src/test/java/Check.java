@@ -1,7 +1,15 @@
+import java.util.List;
+import java.util.Set;
+import java.util.TreeSet;
+
 /** What the tests share: comparing answers, waiting for exceptions, making objects from texts. */
 final class Check {
     interface Call {
         long answer();
+    }
+
+    interface CallWith {
+        long answer(int value);
     }
 
     static final String INDEX = "throws.IndexOutOfBoundsException";
@@ -26,6 +34,34 @@ final class Check {
 
     static void refuses(String what, String exception, Call call) {
         same(what, outcome(call), exception);
+    }
+
+    static void answers(String what, Call call) {
+        String got = outcome(call);
+        same(what + " answered " + got + ", which is an exception", Boolean.toString(got.startsWith("throws")), "false");
+    }
+
+    /** Both bounds are taken; all that lies outside is refused, also what a wrap-around would bring inside. */
+    static void range(String what, String exception, int from, int to, CallWith call) {
+        answers(what + " " + from, () -> call.answer(from));
+        answers(what + " " + to, () -> call.answer(to));
+        refusesAll(what, exception, from, to, call);
+    }
+
+    /** Where nothing is inside, to is one less than from. */
+    static void refusesAll(String what, String exception, int from, int to, CallWith call) {
+        for (int value : outside(from, to)) {
+            refuses(what + " " + value, exception, () -> call.answer(value));
+        }
+    }
+
+    private static Set<Integer> outside(int from, int to) {
+        Set<Integer> values = new TreeSet<>(List.of(from - 1, to + 1, -9, Integer.MIN_VALUE, Integer.MAX_VALUE));
+        for (int bit = 0; bit < 32; bit++) {
+            values.addAll(List.of(from + (1 << bit), to + (1 << bit), from - (1 << bit)));
+        }
+        values.removeIf(value -> value >= from && value <= to);
+        return values;
     }
 
     /** The exception's own class counts: a machine's ArrayIndexOutOfBoundsException is not the document's. */
@@ -104,6 +140,27 @@ final class Check {
         }
         s.append(message(x)).append('|').append(digits(x)).append('|').append(plan(x));
         return s.append('|').append(x.tape(2, 0)).append(' ').append(x.tape(2, 1)).toString();
+    }
+
+    /**
+     * Everything that an object holds: the state, the remembered ones, the save slots, and what its text loads.
+     * Reading it uses the object up, and only small objects stay within their 512 calls.
+     */
+    static String everything(AliasStreams x) {
+        StringBuilder s = new StringBuilder(state(x));
+        for (int i = 0; i < 15; i++) {
+            s.append("\n undo ").append(outcome(x::undo)).append(" to ").append(marks(x));
+        }
+        for (int slot = 0; slot < 2; slot++) {
+            int from = slot;
+            s.append("\n restore ").append(outcome(() -> x.restore(from))).append(" to ").append(state(x));
+        }
+        s.append("\n error ").append(x.errorPosition()).append(" load ").append(outcome(x::load));
+        return s.append(" to ").append(state(x)).append(" of ").append(x.clearText()).toString();
+    }
+
+    private static String marks(AliasStreams x) {
+        return x.tape(2, 0) + " " + x.tape(2, 1) + " " + x.symbol(0, 0, 0) + " " + x.about(2) + " " + x.about(4);
     }
 
     static void finish() {

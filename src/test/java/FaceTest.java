@@ -85,8 +85,8 @@ public final class FaceTest {
 
     private static void checkPrivateNames(Class<?> type, Set<String> faceNames) {
         for (Method m : type.getDeclaredMethods()) {
-            boolean own = type != AliasStreams.class || Modifier.isPrivate(m.getModifiers());
-            Check.same(m + " bears a name of the face", Boolean.toString(own && faceNames.contains(m.getName())), "false");
+            boolean bears = Modifier.isPrivate(m.getModifiers()) && faceNames.contains(m.getName());
+            Check.same(m + " bears a name of the face", Boolean.toString(bears), "false");
         }
         for (Field f : type.getDeclaredFields()) {
             checkStaticIsFinal(f);

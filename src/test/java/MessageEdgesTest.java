@@ -55,7 +55,10 @@ public final class MessageEdgesTest {
         Check.refuses("10: an item that was removed", Check.INDEX, () -> x.item(39));
     }
 
-    /** Promise 13, "i: its place, 0 to the number of items", "Throws IndexOutOfBoundsException if i is out of range". */
+    /**
+     * Promise 13, "i: its place, 0 to the number of items", "Throws IndexOutOfBoundsException if i is out of
+     * range".
+     */
     private static void insertPlace() {
         Check.range("13: place in none", Check.INDEX, 0, 0, i -> Check.loaded(TWO).insert(i, 0));
         Check.range("13: place in two", Check.INDEX, 0, 2, i -> Check.loaded(TWO + ":ab").insert(i, 11));
@@ -91,7 +94,10 @@ public final class MessageEdgesTest {
         Check.due("13: items", x.about(2), 40);
     }
 
-    /** Promise 13, "Throws IllegalStateException if the message has 40 items"; Terms "a sequence of at most 40 items". */
+    /**
+     * Promise 13, "Throws IllegalStateException if the message has 40 items"; Terms "a sequence of at most 40
+     * items".
+     */
     private static void insertIntoFullMessage() {
         for (int i = 0; i <= 40; i++) {
             int place = i;
@@ -155,7 +161,10 @@ public final class MessageEdgesTest {
         }
     }
 
-    /** Promise 15, Terms "The model of a symbol is that of the last change before it, and model 0 if there is none." */
+    /**
+     * Promise 15, Terms "The model of a symbol is that of the last change before it, and model 0 if there is
+     * none."
+     */
     private static void modelOfSymbol() {
         String[] messages = {"ab", "1ab", "a1b", "ab1", "12a0b", "1a1b", "2a01b", "0ab"};
         String[] plans = {"00", "11", "01", "00", "20", "11", "21", "00"};
@@ -202,7 +211,10 @@ public final class MessageEdgesTest {
         Check.range("24: model of three", Check.INDEX, 0, 2, m -> Check.loaded(RARE + ":ab").digitsWith(m));
     }
 
-    /** Promise 24, "if the message were encoded with one model alone", "m: model, which all symbols of the message have then". */
+    /**
+     * Promise 24, "if the message were encoded with one model alone", "m: model, which all symbols of the message
+     * have then".
+     */
     private static void digitsWithOneModel() {
         AliasStreams x = Check.loaded(RARE + ":2aaaa1" + "0a".repeat(4));
         Check.due("24: with model 0", x.digitsWith(0), 10);
@@ -242,7 +254,9 @@ public final class MessageEdgesTest {
         Check.refusesAll("25: k and n", Check.INDEX, 0, 0, k -> Check.loaded(RARE + ":a").product(0, k, 13));
     }
 
-    /** Promises 25 and 26, "n: number of symbols, 1 to 12", "Throws IllegalArgumentException if n is out of range". */
+    /**
+     * Promises 25 and 26, "n: number of symbols, 1 to 12", "Throws IllegalArgumentException if n is out of range".
+     */
     private static void productNumber() {
         Check.range("25: n", Check.ARGUMENT, 1, 12, n -> Check.loaded(FULL).product(0, 39, n));
         Check.range("26: n", Check.ARGUMENT, 1, 12, n -> Check.loaded(FULL).bestModel(39, n));
@@ -284,7 +298,9 @@ public final class MessageEdgesTest {
         Check.refusesAll("26: k and n", Check.INDEX, 0, 0, k -> Check.loaded(RARE + ":a").bestModel(k, 13));
     }
 
-    /** Promise 26, "Returns the model with the greatest product", "among several the one with the smallest number." */
+    /**
+     * Promise 26, "Returns the model with the greatest product", "among several the one with the smallest number."
+     */
     private static void bestModelAmongSeveral() {
         Check.due("26: all alike", Check.loaded("A2m0101m0202m0303:ab").bestModel(0, 2), 0);
         Check.due("26: the last two alike", Check.loaded("A2m0101m0199m0299:b").bestModel(0, 1), 1);
@@ -293,6 +309,10 @@ public final class MessageEdgesTest {
         Check.due("26: the last one", Check.loaded("A2m0001m0001m0101:a").bestModel(0, 1), 2);
         Check.due("26: greater than an int tells", Check.loaded("A2m9901m9900:" + "a".repeat(12)).bestModel(0, 12), 1);
         Check.due("26: one model", Check.loaded("A2m0001:a").bestModel(0, 1), 0);
+        AliasStreams fewer = Check.loaded("A2m9901m0199m0199:b");
+        Check.write(fewer, "A2m9901:b");
+        fewer.load();
+        Check.due("26: the models of an earlier text are gone", fewer.bestModel(0, 1), 0);
     }
 
     /** Promise 26, "n: number of symbols", "as told by product()": of those that there are. */

@@ -32,6 +32,7 @@ public final class ModelEdgesTest {
         setCountRange();
         setCountAnswers();
         setCountMakesAnew();
+        setCountLikeLoaded();
         setCountAllZero();
         setCountRefuses();
         Check.finish();
@@ -109,6 +110,7 @@ public final class ModelEdgesTest {
         frequencies("030405", 8, 11, 13);
         frequencies("050403", 13, 11, 8);
         frequencies("0102030405060708", 2, 2, 3, 3, 4, 5, 6, 7);
+        frequencies("0101010101010103", 4, 3, 3, 3, 3, 3, 3, 10);
     }
 
     /** Promise 7, Terms "(also those that begin with 1)". */
@@ -117,7 +119,10 @@ public final class ModelEdgesTest {
         frequencies("504903", 15, 15, 2);
     }
 
-    /** Promise 7, Terms "get 1 more each, one after the other, until the sum is 32", "among several the smallest symbol first." */
+    /**
+     * Promise 7, Terms "If the sum of these is less than 32, the symbols with counts above 0 get 1 more each,
+     * one after the other, until the sum is 32", "among several the smallest symbol first."
+     */
     private static void smallestSymbolFirst() {
         frequencies("010101", 11, 11, 10);
         frequencies("999999", 11, 11, 10);
@@ -175,7 +180,10 @@ public final class ModelEdgesTest {
         buckets("2705", new int[] {3, 4, 0, 0, 0, 0, 0, 0}, new int[] {1, NONE, 0, 0, 0, 0, 0, 0});
     }
 
-    /** Promise 8, Terms "as many of its first slots as its rest is belong to symbol b; the other ones, if there are any, belong to its alias". */
+    /**
+     * Promise 8, Terms "as many of its first slots as its rest is belong to symbol b; the other ones, if there are
+     * any, belong to its alias".
+     */
     private static void firstSlots() {
         AliasStreams x = Check.loaded("A2m0527");
         int[] want = {0, 0, 0, 0, 1, 1, 1, 0, 1};
@@ -194,7 +202,10 @@ public final class ModelEdgesTest {
         buckets("035049", new int[] {2, 4, 3, 0, 0, 0, 0, 0}, new int[] {1, NONE, 1, 2, 1, 2, 1, 2});
     }
 
-    /** Promise 8, Terms "among several the one with the smallest number; the rest of that bucket decreases by the number of these slots." */
+    /**
+     * Promise 8, Terms "among several the one with the smallest number; the rest of that bucket decreases by the
+     * number of these slots."
+     */
     private static void aliasWithSmallestNumber() {
         buckets("0101", new int[] {4, 4, 0, 0, 0, 0, 0, 0}, new int[] {NONE, NONE, 0, 1, 0, 1, 0, 1});
         buckets("01010101", new int[] {4, 4, 4, 4, 0, 0, 0, 0}, new int[] {NONE, NONE, NONE, NONE, 0, 1, 2, 3});
@@ -249,7 +260,10 @@ public final class ModelEdgesTest {
         abouts(Check.encoded(MOST), 8, 3, 0, 0, 0, 0, 1);
     }
 
-    /** Promise 7, "Throws IndexOutOfBoundsException if there is no such model or symbol", "IllegalArgumentException if what is not 0 or 1". */
+    /**
+     * Promise 7, "Throws IndexOutOfBoundsException if there is no such model or symbol", "IllegalArgumentException
+     * if what is not 0 or 1".
+     */
     private static void symbolRefuses() {
         Check.range("7: m", Check.INDEX, 0, 2, m -> Check.loaded(MOST).symbol(m, 0, 1));
         Check.range("7: s", Check.INDEX, 0, 7, s -> Check.loaded(MOST).symbol(2, s, 1));
@@ -258,7 +272,10 @@ public final class ModelEdgesTest {
         Check.refusesAll("7: s and what", Check.INDEX, 0, 7, s -> Check.loaded(MOST).symbol(0, s, -1));
     }
 
-    /** Promise 8, "b: bucket, 0 to 7", "Throws IndexOutOfBoundsException if there is no such model or bucket", "if what is not 0 or 1". */
+    /**
+     * Promise 8, "b: bucket, 0 to 7", "Throws IndexOutOfBoundsException if there is no such model or bucket", "if
+     * what is not 0 or 1".
+     */
     private static void bucketRefuses() {
         Check.range("8: m", Check.INDEX, 0, 2, m -> Check.loaded(MOST).bucket(m, 0, 0));
         Check.range("8: b", Check.INDEX, 0, 7, b -> Check.loaded(MOST).bucket(2, b, 0));
@@ -279,7 +296,10 @@ public final class ModelEdgesTest {
         }
     }
 
-    /** Promise 9, "k: slot, 0 to 31", "Throws IndexOutOfBoundsException if there is no such model or slot", "if what is not 0 or 1". */
+    /**
+     * Promise 9, "k: slot, 0 to 31", "Throws IndexOutOfBoundsException if there is no such model or slot", "if
+     * what is not 0 or 1".
+     */
     private static void slotRefuses() {
         Check.range("9: m", Check.INDEX, 0, 2, m -> Check.loaded(MOST).slot(m, 0, 0));
         Check.range("9: k", Check.INDEX, 0, 31, k -> Check.loaded(MOST).slot(2, k, 0));
@@ -324,6 +344,30 @@ public final class ModelEdgesTest {
         Check.due("12: there and back", x.slot(1, 0, 0), 0);
     }
 
+    /** Promise 12, "are made anew": of the counts alone, whatever the frequencies and slots were before. */
+    private static void setCountLikeLoaded() {
+        sameTables("A7m01010101010101", 6, 0, "A7m01010101010100");
+        sameTables("A7m01010101010101", 0, 99, "A7m99010101010101");
+        sameTables("A8m0101010101010199", 7, 98, "A8m0101010101010198");
+        sameTables("A8m0101010101010199", 0, 50, "A8m5001010101010199");
+        sameTables("A3m035049", 0, 0, "A3m005049");
+    }
+
+    private static void sameTables(String text, int s, int c, String like) {
+        AliasStreams x = Check.loaded(text);
+        x.setCount(0, s, c);
+        AliasStreams y = Check.loaded(like);
+        Check.same("12: frequencies of " + like, Check.state(x), Check.state(y));
+        for (int k = 0; k < 32; k++) {
+            Check.due("12: slot " + k + " of " + like, x.slot(0, k, 0), y.slot(0, k, 0));
+            Check.due("12: index " + k + " of " + like, x.slot(0, k, 1), y.slot(0, k, 1));
+        }
+        for (int b = 0; b < 8; b++) {
+            Check.due("12: rest " + b + " of " + like, x.bucket(0, b, 0), y.bucket(0, b, 0));
+            Check.due("12: alias " + b + " of " + like, x.bucket(0, b, 1), y.bucket(0, b, 1));
+        }
+    }
+
     /** Promise 12, "Throws IllegalStateException if all counts of the model would be 0". */
     private static void setCountAllZero() {
         AliasStreams x = Check.loaded("A3m000100m010101");
@@ -338,7 +382,10 @@ public final class ModelEdgesTest {
         Check.refuses("12: and must keep one", Check.STATE, () -> x.setCount(1, 2, 0));
     }
 
-    /** Promise 12, "Throws IndexOutOfBoundsException if there is no such model or symbol", and which exception comes first. */
+    /**
+     * Promise 12, "Throws IndexOutOfBoundsException if there is no such model or symbol", and which exception
+     * comes first.
+     */
     private static void setCountRefuses() {
         Check.range("12: m", Check.INDEX, 0, 2, m -> Check.loaded(MOST).setCount(m, 0, 1));
         Check.range("12: s", Check.INDEX, 0, 7, s -> Check.loaded(MOST).setCount(2, s, 1));

@@ -28,7 +28,9 @@ public final class RefusedCallsTest {
         Check.finish();
     }
 
-    /** Fourteen states are remembered, so that one more would be seen; slot 0 is used, and the text is another one. */
+    /**
+     * Fourteen states are remembered, so that one more would be seen; slot 0 is used, and the text is another one.
+     */
     private static AliasStreams used() {
         AliasStreams x = Check.encoded("A2m0199m0001:ab");
         x.setHead(1, 900);
@@ -64,7 +66,10 @@ public final class RefusedCallsTest {
         refused("2: a full text", Check.STATE, full, x -> x.append('A'));
     }
 
-    /** Promise 5, "A call that throws an exception changes nothing.": not the state, what is remembered, saved, or written. */
+    /**
+     * Promise 5, "A call that throws an exception changes nothing.": not the state, what is remembered, saved, or
+     * written.
+     */
     private static void load() {
         String[] wrong = {"", "A3", "A3m010203m", "A3m010203m000000", "A3m010203:", "A3m010203:cd", "A3m010203:c1"};
         for (String text : wrong) {
@@ -133,7 +138,9 @@ public final class RefusedCallsTest {
         refused("14: item 0 of none", Check.INDEX, AliasStreams::new, x -> x.remove(0));
     }
 
-    /** Promise 15, "A call that throws an exception changes nothing.": the tape stays, although some symbols fit. */
+    /**
+     * Promise 15, "A call that throws an exception changes nothing.": the tape stays, although some symbols fit.
+     */
     private static void encode() {
         Supplier<AliasStreams> unfit = () -> {
             AliasStreams x = used();
@@ -144,7 +151,10 @@ public final class RefusedCallsTest {
         refused("15: unfit", Check.STATE, unfit, AliasStreams::encode);
     }
 
-    /** Promise 16, "A call that throws an exception changes nothing.": the message stays, although some symbols come. */
+    /**
+     * Promise 16, "A call that throws an exception changes nothing.": the message stays, although some symbols
+     * come.
+     */
     private static void decode() {
         Supplier<AliasStreams> failing = () -> {
             AliasStreams x = Check.encoded("A2m0199:bbb");

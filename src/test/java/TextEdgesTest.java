@@ -247,7 +247,10 @@ public final class TextEdgesTest {
         error("A8" + model(8).repeat(3) + ":" + "0".repeat(20) + "h".repeat(21), 94);
     }
 
-    /** Promise 4, Terms "the letter of a symbol"; "There are n symbols, 2 to 8, numbered from 0 (also called a to h)." */
+    /**
+     * Promise 4, Terms "the letter of a symbol"; "There are n symbols, 2 to 8, numbered from 0 (also called a to
+     * h)."
+     */
     private static void letterOfSymbol() {
         for (int n = 2; n <= 8; n++) {
             String begin = "A" + n + model(n) + ":b";
@@ -279,7 +282,10 @@ public final class TextEdgesTest {
         }
     }
 
-    /** Promise 4, Terms "The error position is the index of the first character that these rules do not allow at its place". */
+    /**
+     * Promise 4, Terms "The error position is the index of the first character that these rules do not allow at
+     * its place".
+     */
     private static void firstWrongCharacter() {
         error("B9x", 0);
         error("A9x0000", 1);
@@ -338,6 +344,10 @@ public final class TextEdgesTest {
         most.load();
         Check.same("5: the greatest text", Check.state(most), "99/31 0/0 0/0 0/0 0/0 0/0 0/0 1/1 |"
             + "0/0 0/0 0/0 0/0 0/0 0/0 0/0 99/32 |1/4 1/4 1/4 1/4 1/4 1/4 1/4 1/4 |" + message + "|||512 512");
+        Check.write(most, "A2m0101m0102m0199:ab");
+        most.load();
+        Check.same("5: nothing of an earlier text counts", Check.state(most),
+            "1/16 1/16 |1/11 2/21 |1/1 99/31 |ab|||512 512");
     }
 
     /** Promise 5, "the tape becomes as at first." */

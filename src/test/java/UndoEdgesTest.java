@@ -12,6 +12,7 @@ public final class UndoEdgesTest {
         actionsThatChangeNothing();
         undoIsNoAction();
         wholeStateComesBack();
+        lastCountItemAndPlanComeBack();
         textIsNotPartOfTheState();
         saveSlotsAreNotPartOfTheState();
         otherCallsAreNoActions();
@@ -52,7 +53,10 @@ public final class UndoEdgesTest {
         return x;
     }
 
-    /** Promise 20, "Takes back the last action that is remembered.", "Returns how many states are still remembered." */
+    /**
+     * Promise 20, "Takes back the last action that is remembered.", "Returns how many states are still
+     * remembered."
+     */
     private static void undoAnswers() {
         for (int actions = 1; actions <= 13; actions++) {
             AliasStreams x = withHeads(actions);
@@ -104,7 +108,10 @@ public final class UndoEdgesTest {
         Check.due("20: the oldest one", x.tape(2, 0), 1008);
     }
 
-    /** Promise 20, Terms "Each call of one of them that does not throw an exception is an action". */
+    /**
+     * Promise 20, Terms "Each call of one of them that does not throw an exception is an action", "Before each
+     * action, the state is remembered."
+     */
     private static void eachActionIsRemembered() {
         AliasStreams x = Check.encoded(TEXT);
         Check.due("20: encode", x.undo(), 0);
@@ -177,6 +184,36 @@ public final class UndoEdgesTest {
             x.slot(0, 0, 0) + " " + x.slot(0, 31, 1) + " " + x.bucket(0, 0, 0) + " " + x.bucket(0, 1, 1), slots);
     }
 
+    /**
+     * Promises 20, 31 and 32, Terms "the counts, the message and the tape": also the last of as many as there can
+     * be.
+     */
+    private static void lastCountItemAndPlanComeBack() {
+        AliasStreams x = Check.loaded("A8" + "m0101010101010101".repeat(3) + ":" + "h".repeat(40));
+        x.encode();
+        x.save(1);
+        x.setCount(2, 7, 50);
+        x.remove(39);
+        x.insert(39, 0);
+        x.setPlan(39, 2);
+        for (int left = 4; left >= 1; left--) {
+            Check.due("20: states left", x.undo(), left);
+        }
+        lastOnes("20", x);
+        x.setCount(2, 7, 50);
+        x.remove(39);
+        x.insert(39, 0);
+        x.setPlan(39, 2);
+        x.restore(1);
+        lastOnes("32", x);
+    }
+
+    private static void lastOnes(String promise, AliasStreams x) {
+        Check.due(promise + ": the last count", x.symbol(2, 7, 0), 1);
+        Check.due(promise + ": the last item", x.item(39), 7);
+        Check.due(promise + ": the last model of the plan", x.tape(1, 39), 0);
+    }
+
     /** Promise 20, Terms "The text and the save slots are not part of the state.": the text. */
     private static void textIsNotPartOfTheState() {
         AliasStreams x = withHeads(1);
@@ -206,7 +243,9 @@ public final class UndoEdgesTest {
         Check.due("32: as it was saved", x.tape(2, 0), 2000);
     }
 
-    /** Promise 20, Terms "The methods in the section "actions" change the state": all other methods are no actions. */
+    /**
+     * Promise 20, Terms "The methods in the section "actions" change the state": all other methods are no actions.
+     */
     private static void otherCallsAreNoActions() {
         AliasStreams x = Check.encoded("A2m0199m0101:ab");
         x.append('a');
@@ -283,7 +322,9 @@ public final class UndoEdgesTest {
         Check.due("31: its slots", x.slot(0, 1, 0), 1);
     }
 
-    /** Promise 31, "Stores the present state in a save slot.": in place of the one that was there, and only there. */
+    /**
+     * Promise 31, "Stores the present state in a save slot.": in place of the one that was there, and only there.
+     */
     private static void saveReplaces() {
         AliasStreams x = new AliasStreams();
         x.save(0);
@@ -295,7 +336,10 @@ public final class UndoEdgesTest {
         Check.due("31: slot 0 has the later one", x.restore(0), 2);
     }
 
-    /** Promise 32, "slot: 0 or 1", "Throws IndexOutOfBoundsException if there is no such save slot", which is named first. */
+    /**
+     * Promise 32, "slot: 0 or 1", "Throws IndexOutOfBoundsException if there is no such save slot", which is named
+     * first.
+     */
     private static void restoreSlots() {
         Check.range("32: slot", Check.INDEX, 0, 1, slot -> {
             AliasStreams x = new AliasStreams();
@@ -346,7 +390,10 @@ public final class UndoEdgesTest {
         Check.due("32: none", x.restore(1), 0);
     }
 
-    /** Promise 32, "Replaces the state by the one in a save slot": also the frequencies and slots that follow from it. */
+    /**
+     * Promise 32, "Replaces the state by the one in a save slot": also the frequencies and slots that follow from
+     * it.
+     */
     private static void restoreReplacesTheState() {
         AliasStreams x = Check.encoded("A2m0101m0101:ab");
         x.save(0);
@@ -382,7 +429,10 @@ public final class UndoEdgesTest {
         }
     }
 
-    /** All promises, "An object is used for at most 512 calls after it has been made": the last of them answers like the first. */
+    /**
+     * All promises, "An object is used for at most 512 calls after it has been made": the last of them answers
+     * like the first.
+     */
     private static void fiveHundredTwelveCalls() {
         AliasStreams x = new AliasStreams();
         for (int call = 1; call <= 498; call++) {
